@@ -797,12 +797,17 @@ public final class SettingStore {
         }
 
         private int newestOf(int tag) {
-            return isTag(tag) ? newest[tag] : NONE;
+            return tag >= 0 && tag < newest.length ? newest[tag] : NONE;
         }
 
         private boolean hasValue(int tag) {
+            return valuedSize(tag) > 0;
+        }
+
+        /** Bytes of the NEWEST of a TAG; 0: it has no value. */
+        private int valuedSize(int tag) {
             int i = newestOf(tag);
-            return has(i) && (kinds[i] == COUNTER || sizes[i] > FRAME);
+            return has(i) && sizes[i] > FRAME ? sizes[i] : 0;
         }
 
         private long newestValue(int tag) {
@@ -907,10 +912,6 @@ public final class SettingStore {
                 }
             }
             return written;
-        }
-
-        private int valuedSize(int tag) {
-            return hasValue(tag) ? sizes[newestOf(tag)] : 0;
         }
 
         private long valuedTags() {
