@@ -1061,7 +1061,6 @@ public final class SettingStore {
         }
 
         private int countUp(int tag) {
-            chip.doings = 0;
             reading.scan(chip, inUse);
             int value = reading.hasValue(tag) ? (int) reading.newestValue(tag) : 0;
             if (value >= MOST_COUNTED) {

@@ -4,6 +4,7 @@ public final class SettingsTest {
         set();
         setRefused();
         setWithHandover();
+        roomToTheByte();
         drop();
         bump();
         bumpWrapsToNewOne();
@@ -82,8 +83,41 @@ public final class SettingsTest {
         Check.due("ROOM now", x.set(5, 2, 1), 4 + 4 + 7 + 7 + 1 + 1 + 4);
     }
 
+    private static void roomToTheByte() {
+        SettingStore x = Check.running(2, 32);
+        x.set(0, 1, 4);
+        x.set(2, 2, 4);
+        x.set(3, 3, 4);
+        x.set(0, 4, 4);
+        Check.due("full", x.space(0, 0), 32);
+        Check.due("just enough behind HANDOVER", x.set(4, 5, 4), 4 + 21 + 2 + 7);
+        Check.due("of all TAGS from 0 on", x.get(0) * 1000 + x.get(2) * 100 + x.get(3) * 10 + x.get(4), 4235);
+        Check.due("full", x.space(1, 0), 32);
+        SettingStore y = Check.running(2, 32);
+        y.set(0, 1, 4);
+        y.set(0, 2, 4);
+        y.begin();
+        y.set(1, 1, 4);
+        y.set(2, 1, 4);
+        y.set(3, 1, 0);
+        Check.due("18 of 14 FREE ones, 21 behind HANDOVER", y.commit(), 4 + 7 + 2 + 18);
+        SettingStore z = Check.running(2, 32);
+        z.bump(32);
+        Check.due("just enough FREE ones", z.bump(33), 1);
+        Check.due("full", z.space(0, 0), 32);
+        Check.due("no HANDOVER", z.count(7), 0);
+    }
+
     private static void drop() {
         SettingStore x = new SettingStore();
+        x.on();
+        x.bump(32);
+        Check.due("no setting", x.drop(32), -1);
+        x.set(31, 1, 1);
+        Check.due("drop(31)", x.drop(31), 3);
+        x.set(0, 1, 1);
+        Check.due("drop(0)", x.drop(0), 3);
+        Check.due("a new CHIP", x.chip(3, 64), true);
         x.on();
         x.set(9, 1, 4);
         Check.due("drop", x.drop(9), 3);

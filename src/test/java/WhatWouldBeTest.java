@@ -90,6 +90,13 @@ public final class WhatWouldBeTest {
         x.set(1, 2, 4);
         Check.due("after", x.after(), 21);
         Check.due("costs(4)", x.costs(4), 7);
+        SettingStore y = Check.running(2, 32);
+        y.set(0, 1, 4);
+        y.set(0, 1, 4);
+        y.set(0, 1, 4);
+        Check.due("costs of just the FREE ones", y.costs(4), 7);
+        y.set(0, 1, 1);
+        Check.due("costs with HANDOVER", y.costs(1), 4 + 4 + 2 + 4);
         x.bump(32);
         Check.due("FREE", x.space(0, 0), 32);
         Check.due("after", x.after(), 7);
