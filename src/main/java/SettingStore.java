@@ -278,7 +278,7 @@ public final class SettingStore {
     }
 
     public long history(int tag, int i) {
-        if (!store.isOn() || !isTag(tag)) {
+        if (!store.isOn() || !isTag(tag) || i < NONE) {
             return NONE;
         }
         Reading reading = store.look();

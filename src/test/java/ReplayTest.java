@@ -227,6 +227,8 @@ public final class ReplayTest {
             }
             due("history(" + tag + ", " + told + ")", x.history(tag, told), -5);
             due("history(" + tag + ", -1)", x.history(tag, -1), told);
+            int below = -2 - dice.nextInt(9);
+            due("history(" + tag + ", " + below + ")", x.history(tag, below), -1);
         }
         due("tags()", x.tags(), tags);
     }

@@ -172,9 +172,10 @@ public final class WhatWouldBeTest {
         Check.due("of LENGTH 4", x.history(1, 2), 4294967295L);
         Check.due("the first", x.history(1, 3), 10);
         Check.due("none such", x.history(1, 4), -5);
-        Check.due("none such", x.history(1, -2), -5);
+        Check.due("below NONE", x.history(1, -2), -1);
         Check.due("none such", x.history(1, Integer.MAX_VALUE), -5);
-        Check.due("none such", x.history(1, Integer.MIN_VALUE), -5);
+        Check.due("below NONE", x.history(1, Integer.MIN_VALUE), -1);
+        Check.due("below NONE, of a TAG without values", x.history(9, -2), -1);
         x.bump(32);
         x.bump(32);
         Check.due("a COUNTER as it is", x.history(32, 0), 2);
