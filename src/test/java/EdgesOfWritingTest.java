@@ -14,6 +14,7 @@ public final class EdgesOfWritingTest {
         handoverOfNumbers();
         handoverOfNothing();
         handoverOfAll();
+        handoverOfEachTag();
         handoverOfCounters();
         handoverInItsOrder();
         roomIsJustEnough();
@@ -45,6 +46,7 @@ public final class EdgesOfWritingTest {
         lengthOfOthers();
         handOfOthers();
         handTorn();
+        manyCalls();
         Check.finish("EdgesOfWritingTest");
     }
 
@@ -265,6 +267,26 @@ public final class EdgesOfWritingTest {
         Check.bytes(y, 1, 15, Check.sealed(32, 43, 0, 0, 6));
         Check.bytes(y, 1, 29, Check.sealed(47, 43, 0, 0, 5));
         Check.due("FREE behind the eight of the last", y.space(1, 0), 43);
+    }
+
+    private static void handoverOfEachTag() {
+        Check.sentence("by TAGS the NEWEST of each, if that has a value, is WRITTEN there as a SETTING, a COUNTER");
+        for (int tag = 0; tag < 48; tag++) {
+            SettingStore x = Check.made(2, 32);
+            Check.burnHead(x, 0, 63, 1);
+            int[] row = tag < 32 ? Check.sealed(tag, 17, 5) : Check.sealed(tag, 43, 0, 0, 5);
+            int size = tag < 32 ? 4 : 14;
+            Check.burn(x, 0, 4, row);
+            Check.burn(x, 0, 4 + size, 99);
+            x.on();
+            Check.due("bytes of " + tag, x.space(0, 2), size);
+            Check.due("after()", x.after(), 28 - size);
+            Check.due("costs(1)", x.costs(1), 4 + row.length + 2 + 4);
+            Check.due("hand()", x.hand(), 4 + row.length + 2);
+            Check.bytes(x, 1, 4, row);
+            Check.due("FREE", x.space(1, 0), 4 + size);
+            Check.due("get", x.get(tag), 5);
+        }
     }
 
     private static void handoverOfCounters() {
@@ -910,5 +932,24 @@ public final class EdgesOfWritingTest {
         x.bump(32);
         x.power(17, 255);
         Check.due("POWER one DOING behind it", x.hand(), 16);
+    }
+
+    private static void manyCalls() {
+        Check.sentence("An object is used for at most 512 calls after it has been made");
+        SettingStore x = new SettingStore();
+        x.chip(2, 32);
+        x.on();
+        for (int i = 1; i <= 510; i++) {
+            Check.due("bump", x.bump(32), i);
+        }
+        SettingStore y = new SettingStore();
+        y.on();
+        for (int i = 1; i <= 511; i++) {
+            Check.due("hand", y.hand(), 6);
+        }
+        SettingStore z = Check.filled(128, 116, 4);
+        for (int i = 1; i <= 300; i++) {
+            Check.due("torn", z.torn(0, i, 4, 4 + 116 + 2 + 7, 255, 0), i);
+        }
     }
 }
